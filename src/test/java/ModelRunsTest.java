@@ -6,12 +6,12 @@ import java.util.Random;
 import java.util.Set;
 
 /**
- * Runs of at most 512 calls, chosen from fixed seeds, beside a model that is built another way:
+ * Runs of 512 calls, chosen from fixed seeds, beside a model that is built another way:
  * objects that point at one another, from which words, bits and addresses are worked out anew.
  */
 public final class ModelRunsTest {
-    private static final int RUNS = 1500;
-    private static final int CALLS = 512;
+    private static final int RUNS = 4000;
+    private static final int CALLS_FOR_LAST_LOOK = 150;
     private static int wrong = 0;
 
     private static final class Thing {
@@ -163,6 +163,10 @@ public final class ModelRunsTest {
             return before;
         }
 
+        int rootOf(int k) {
+            return k < 0 || k > 7 ? -1 : roots[k] == null ? 0 : roots[k].at;
+        }
+
         int count(int what) {
             int[] all = {top, things.size(), collectings, n, (n + b) / b};
             return what < 0 || what > 4 ? -1 : all[what];
@@ -192,18 +196,18 @@ public final class ModelRunsTest {
         Random r = new Random(run);
         int words = run % 5 == 0 ? r.nextInt(4200) : 10 + r.nextInt(400);
         int block = new int[] {8, 16, 32, 64, 8, 64, 12, -3}[r.nextInt(8)];
-        OffsetHeap h = new OffsetHeap(words, block);
+        CountedHeap h = new CountedHeap(words, block);
         Model m = new Model(words, block);
         int large = run % 3 == 0 ? 101 : 12;
-        for (int call = 0; call < CALLS; call++) {
+        while (h.callsLeft() > CALLS_FOR_LAST_LOOK) {
             int choice = r.nextInt(100);
             if (choice < 70) {
                 change(run, r, h, m, choice, large);
             } else {
-                ask(run, r, h, m);
+                ask(run, r, h, m, r.nextInt(m.n + 5) - 2);
             }
         }
-        askAll(run, h, m);
+        lookAtWordsInARow(run, r, h, m);
     }
 
     private static int address(Random r, Model m) {
@@ -217,7 +221,7 @@ public final class ModelRunsTest {
         return m.things.get(r.nextInt(m.things.size())).at;
     }
 
-    private static void change(int run, Random r, OffsetHeap h, Model m, int choice, int large) {
+    private static void change(int run, Random r, CountedHeap h, Model m, int choice, int large) {
         if (choice < 30) {
             int references = r.nextInt(large == 101 ? 17 : 5);
             int words = r.nextInt(large + 1) - r.nextInt(2);
@@ -241,45 +245,39 @@ public final class ModelRunsTest {
         }
     }
 
-    private static void ask(int run, Random r, OffsetHeap h, Model m) {
-        int i = r.nextInt(m.n + 5) - 2;
+    private static void lookAtWordsInARow(int run, Random r, CountedHeap h, Model m) {
+        int i = r.nextInt(m.n + 5);
+        while (h.callsLeft() > 0) {
+            ask(run, r, h, m, i % (m.n + 5) - 2);
+            if (r.nextInt(3) == 0) {
+                i++;
+            }
+        }
+    }
+
+    /** One call, about word i or something else. */
+    private static void ask(int run, Random r, CountedHeap h, Model m, int i) {
         int few = r.nextInt(12) - 2;
-        int steps = r.nextBoolean() ? few : r.nextInt(104) - 2;
-        askWord(run, h, m, i);
-        askBlock(run, h, m, r.nextInt(m.n / m.b + 4) - 1);
-        due(run, "near(" + steps + ")", h.near(steps), steps < 0 || steps > 100 ? -1 : m.led(steps).size());
-        askCount(run, h, m, few);
-    }
-
-    private static void askAll(int run, OffsetHeap h, Model m) {
-        for (int i = -2; i <= m.n + 2; i += m.n > 500 ? 7 : 1) {
-            askWord(run, h, m, i);
-        }
-        for (int b = -2; b <= m.n / m.b + 2; b++) {
-            askBlock(run, h, m, b);
-        }
-        for (int what = -2; what < 10; what++) {
-            askCount(run, h, m, what);
-        }
-    }
-
-    private static void askWord(int run, OffsetHeap h, Model m, int i) {
         boolean none = i < 0 || i > m.n;
-        due(run, "word(" + i + ")", h.word(i), m.word(i));
-        due(run, "isObject(" + i + ")", h.isObject(i) ? 1 : 0, m.thing(i) == null ? 0 : 1);
-        due(run, "bit(" + i + ")", h.bit(i), none ? -1 : m.bits[i] ? 1 : 0);
-        due(run, "moved(" + i + ")", h.moved(i), none ? -1 : m.bits[i] ? 1 + m.bitsBefore(i) : 0);
+        switch (r.nextInt(10)) {
+            case 0: due(run, "word(" + i + ")", h.word(i), m.word(i)); break;
+            case 1: due(run, "isObject(" + i + ")", h.isObject(i) ? 1 : 0, m.thing(i) == null ? 0 : 1); break;
+            case 2: due(run, "bit(" + i + ")", h.bit(i), none ? -1 : m.bits[i] ? 1 : 0); break;
+            case 3: due(run, "moved(" + i + ")", h.moved(i), none ? -1 : m.bits[i] ? 1 + m.bitsBefore(i) : 0); break;
+            case 4: askBlock(run, h, m, r.nextInt(m.n / m.b + 4) - 1); break;
+            case 5: askNear(run, h, m, r.nextBoolean() ? few : r.nextInt(104) - 2); break;
+            case 6: due(run, "count(" + few + ")", h.count(few), m.count(few)); break;
+            case 7: due(run, "rootOf(" + few + ")", h.rootOf(few), m.rootOf(few)); break;
+            case 8: due(run, "reads()", h.reads(), m.living); break;
+            default: due(run, "sound()", h.sound() ? 1 : 0, 1); break;
+        }
     }
 
-    private static void askBlock(int run, OffsetHeap h, Model m, int b) {
+    private static void askBlock(int run, CountedHeap h, Model m, int b) {
         due(run, "offset(" + b + ")", h.offset(b), b < 0 || b * m.b > m.n ? -1 : m.bitsBefore(b * m.b));
     }
 
-    private static void askCount(int run, OffsetHeap h, Model m, int k) {
-        due(run, "count(" + k + ")", h.count(k), m.count(k));
-        int root = k < 0 || k > 7 ? -1 : m.roots[k] == null ? 0 : m.roots[k].at;
-        due(run, "rootOf(" + k + ")", h.rootOf(k), root);
-        due(run, "reads()", h.reads(), m.living);
-        due(run, "sound()", h.sound() ? 1 : 0, 1);
+    private static void askNear(int run, CountedHeap h, Model m, int steps) {
+        due(run, "near(" + steps + ")", h.near(steps), steps < 0 || steps > 100 ? -1 : m.led(steps).size());
     }
 }

@@ -47,8 +47,8 @@ public final class PromisesTest {
      * Objects at 1 (1 reference, 2 words), 5 (no reference, 3 words), 9 (2 references, 1 word) and
      * 13 (1 reference); root 2 leads to 9, 9 to 1 and 13; 5 is led to by none.
      */
-    private static OffsetHeap small() {
-        OffsetHeap h = new OffsetHeap(40, 8);
+    private static CountedHeap small() {
+        CountedHeap h = new CountedHeap(40, 8);
         h.make(1, 2);
         h.make(0, 3);
         h.make(2, 1);
@@ -63,24 +63,8 @@ public final class PromisesTest {
         return h;
     }
 
-    private static String words(OffsetHeap h) {
-        StringBuilder all = new StringBuilder();
-        for (int i = 0; i <= h.count(3); i++) {
-            all.append(h.word(i)).append(' ');
-        }
-        return all.toString().replaceAll("( 0)+ $", "");
-    }
-
-    private static String bits(OffsetHeap h) {
-        StringBuilder all = new StringBuilder();
-        for (int i = 0; i <= h.count(3); i++) {
-            all.append(h.bit(i));
-        }
-        return all.toString();
-    }
-
     private static void promise1NewObject() {
-        OffsetHeap h = new OffsetHeap(100, 16);
+        CountedHeap h = new CountedHeap(100, 16);
         due("1: top", h.count(0), 1);
         due("1: objects", h.count(1), 0);
         due("1: collectings", h.count(2), 0);
@@ -107,19 +91,19 @@ public final class PromisesTest {
         int[][] sizes = {{15, 16}, {16, 16}, {17, 17}, {0, 16}, {3999, 3999}, {4000, 4000}, {4001, 4000},
             {Integer.MIN_VALUE, 16}, {Integer.MAX_VALUE, 4000}};
         for (int[] size : sizes) {
-            due("1: greatest word of " + size[0], new OffsetHeap(size[0], 8).count(3), size[1]);
+            due("1: greatest word of " + size[0], new CountedHeap(size[0], 8).count(3), size[1]);
         }
         int[][] blocks = {{8, 126}, {16, 63}, {32, 32}, {64, 16}, {0, 32}, {-8, 32}, {4, 32}, {9, 32}, {24, 32},
             {128, 32}, {Integer.MIN_VALUE, 32}, {Integer.MAX_VALUE, 32}};
         for (int[] block : blocks) {
-            due("1: blocks of " + block[0], new OffsetHeap(1000, block[0]).count(4), block[1]);
+            due("1: blocks of " + block[0], new CountedHeap(1000, block[0]).count(4), block[1]);
         }
-        due("1: blocks of 8 in 63", new OffsetHeap(63, 8).count(4), 8);
-        due("1: blocks of 8 in 64", new OffsetHeap(64, 8).count(4), 9);
+        due("1: blocks of 8 in 63", new CountedHeap(63, 8).count(4), 8);
+        due("1: blocks of 8 in 64", new CountedHeap(64, 8).count(4), 9);
     }
 
     private static void promise2Make() {
-        OffsetHeap h = new OffsetHeap(300, 8);
+        CountedHeap h = new CountedHeap(300, 8);
         due("2: make 0 0", h.make(0, 0), 1);
         due("2: make 15 100", h.make(15, 100), 2);
         due("2: make 0 100", h.make(0, 100), 118);
@@ -144,7 +128,7 @@ public final class PromisesTest {
     }
 
     private static void promise2Room() {
-        OffsetHeap h = new OffsetHeap(16, 8);
+        CountedHeap h = new CountedHeap(16, 8);
         due("2: one too many", h.make(0, 16), 0);
         due("2: one too many, references too", h.make(15, 1), 0);
         due("2: objects", h.count(1), 0);
@@ -160,7 +144,7 @@ public final class PromisesTest {
     }
 
     private static void promise3Refer() {
-        OffsetHeap h = small();
+        CountedHeap h = small();
         due("3: refer 1 0 5", h.refer(1, 0, 5), true);
         due("3: word 2", h.word(2), 5);
         due("3: to none", h.refer(1, 0, 0), true);
@@ -168,7 +152,7 @@ public final class PromisesTest {
         due("3: to itself", h.refer(9, 1, 9), true);
         due("3: word 11", h.word(11), 9);
         due("3: word 10 stays", h.word(10), 13);
-        String before = words(h);
+        String before = h.words();
         due("3: reference 1 of 1", h.refer(1, 1, 5), false);
         due("3: reference 2 of 2", h.refer(9, 2, 5), false);
         due("3: reference -1", h.refer(9, -1, 5), false);
@@ -183,18 +167,18 @@ public final class PromisesTest {
             due("3: far reference", h.refer(1, far, 1), false);
             due("3: far to", h.refer(1, 0, far), false);
         }
-        due("3: words after wrong ones", words(h), before);
+        due("3: words after wrong ones", h.words(), before);
     }
 
     private static void promise4Set() {
-        OffsetHeap h = small();
+        CountedHeap h = small();
         due("4: set 9 0", h.set(9, 0, Integer.MIN_VALUE), true);
         due("4: word 12", h.word(12), Integer.MIN_VALUE);
         due("4: set 5 2", h.set(5, 2, Integer.MAX_VALUE), true);
         due("4: word 8", h.word(8), Integer.MAX_VALUE);
         due("4: set 1 1", h.set(1, 1, -1), true);
         due("4: word 4", h.word(4), -1);
-        String before = words(h);
+        String before = h.words();
         due("4: word 1 of 1", h.set(9, 1, 7), false);
         due("4: word 2 of 2", h.set(1, 2, 7), false);
         due("4: word -1", h.set(1, -1, 7), false);
@@ -206,11 +190,11 @@ public final class PromisesTest {
             due("4: far object", h.set(far, 0, 7), false);
             due("4: far word", h.set(1, far, 7), false);
         }
-        due("4: words after wrong ones", words(h), before);
+        due("4: words after wrong ones", h.words(), before);
     }
 
     private static void promise5Root() {
-        OffsetHeap h = small();
+        CountedHeap h = small();
         due("5: root 0", h.root(0, 1), true);
         due("5: root 7", h.root(7, 13), true);
         due("5: root 7 is", h.rootOf(7), 13);
@@ -229,30 +213,30 @@ public final class PromisesTest {
     }
 
     private static void promise6Collect() {
-        OffsetHeap h = small();
+        CountedHeap h = small();
         due("6: living", h.collect(), 10);
-        due("6: words", words(h), "0 528 0 11 12 288 9 1 14 16");
+        due("6: words", h.words(), "0 528 0 11 12 288 9 1 14 16");
         due("6: root 2", h.rootOf(2), 5);
         due("6: root 0", h.rootOf(0), 0);
         due("6: top", h.count(0), 11);
         due("6: objects", h.count(1), 3);
         due("6: again", h.collect(), 10);
-        due("6: words again", words(h), "0 528 0 11 12 288 9 1 14 16");
+        due("6: words again", h.words(), "0 528 0 11 12 288 9 1 14 16");
         h.root(2, 9);
         due("6: less lives", h.collect(), 2);
-        due("6: words of less", words(h), "0 16");
+        due("6: words of less", h.words(), "0 16");
         due("6: root of less", h.rootOf(2), 1);
         h.root(2, 0);
         due("6: none lives", h.collect(), 0);
-        due("6: words of none", words(h), "0");
+        due("6: words of none", h.words(), "0");
         due("6: objects of none", h.count(1), 0);
         due("6: collectings", h.count(2), 4);
-        due("6: an empty one", new OffsetHeap(16, 8).collect(), 0);
+        due("6: an empty one", new CountedHeap(16, 8).collect(), 0);
     }
 
     /** Plain words that look like addresses and headers stay as they are. */
     private static void promise6CollectCircle() {
-        OffsetHeap h = new OffsetHeap(100, 8);
+        CountedHeap h = new CountedHeap(100, 8);
         h.make(0, 4);
         h.make(1, 2);
         h.make(1, 1);
@@ -264,7 +248,7 @@ public final class PromisesTest {
         due("6: a circle that no root leads to, kept", h.root(0, 10), true);
         due("6: root twice", h.root(1, 10), true);
         due("6: circle", h.collect(), 7);
-        due("6: circle's words", words(h), "0 528 5 10 800 272 1 1");
+        due("6: circle's words", h.words(), "0 528 5 10 800 272 1 1");
         due("6: both roots", h.rootOf(0) * 100 + h.rootOf(1), 505);
         h.root(0, 0);
         due("6: one root is enough", h.collect(), 7);
@@ -274,7 +258,7 @@ public final class PromisesTest {
 
     /** Ways longer than near allows count for living too. */
     private static void promise6CollectLongChain() {
-        OffsetHeap h = new OffsetHeap(4000, 64);
+        CountedHeap h = new CountedHeap(4000, 64);
         for (int i = 0; i < 200; i++) {
             h.make(1, 0);
         }
@@ -288,7 +272,7 @@ public final class PromisesTest {
     }
 
     private static void promise6CollectClearsBehindTop() {
-        OffsetHeap h = new OffsetHeap(16, 8);
+        CountedHeap h = new CountedHeap(16, 8);
         for (int turn = 0; turn < 4; turn++) {
             due("6: make", h.make(0, 15), 1);
             for (int k = 0; k < 15; k++) {
@@ -296,13 +280,13 @@ public final class PromisesTest {
                 h.set(1, k, 77);
             }
             h.collect();
-            due("6: behind the top", words(h), "0");
+            due("6: behind the top", h.words(), "0");
         }
     }
 
     private static void promise7Word() {
-        OffsetHeap h = small();
-        due("7: all words", words(h), "0 528 0 11 12 768 13 0 0 288 13 1 14 16");
+        CountedHeap h = small();
+        due("7: all words", h.words(), "0 528 0 11 12 768 13 0 0 288 13 1 14 16");
         due("7: word 0", h.word(0), 0);
         due("7: word n", h.word(40), 0);
         due("7: word n + 1", h.word(41), OffsetHeap.BAD);
@@ -314,7 +298,7 @@ public final class PromisesTest {
     }
 
     private static void promise8IsObject() {
-        OffsetHeap h = small();
+        CountedHeap h = small();
         for (int i = -1; i <= 42; i++) {
             due("8: isObject " + i, h.isObject(i), i == 1 || i == 5 || i == 9 || i == 13);
         }
@@ -325,7 +309,7 @@ public final class PromisesTest {
         for (int i = -1; i <= 42; i++) {
             due("8: isObject after collecting " + i, h.isObject(i), i == 1 || i == 5 || i == 9);
         }
-        OffsetHeap headers = new OffsetHeap(20, 8);
+        CountedHeap headers = new CountedHeap(20, 8);
         headers.make(0, 0);
         headers.make(0, 1);
         headers.make(0, 0);
@@ -335,7 +319,7 @@ public final class PromisesTest {
     }
 
     private static void promise9RootOf() {
-        OffsetHeap h = small();
+        CountedHeap h = small();
         h.root(0, 1);
         h.root(7, 13);
         int[] want = {1, 0, 9, 0, 0, 0, 0, 13};
@@ -349,16 +333,16 @@ public final class PromisesTest {
     }
 
     private static void promise10Bit() {
-        OffsetHeap h = small();
-        due("10: before a collecting", bits(h).contains("1"), false);
+        CountedHeap h = small();
+        due("10: before a collecting", h.bits().contains("1"), false);
         h.collect();
         String want = "011110000111111" + "0".repeat(26);
-        due("10: bits", bits(h), want);
+        due("10: bits", h.bits(), want);
         h.make(0, 20);
         h.root(2, 0);
-        due("10: bits stay", bits(h), want);
+        due("10: bits stay", h.bits(), want);
         h.collect();
-        due("10: bits of none", bits(h).contains("1"), false);
+        due("10: bits of none", h.bits().contains("1"), false);
         due("10: bit n + 1", h.bit(41), OffsetHeap.BAD);
         for (int far : FAR) {
             due("10: far bit", h.bit(far), OffsetHeap.BAD);
@@ -366,7 +350,7 @@ public final class PromisesTest {
     }
 
     private static void promise11Offset() {
-        OffsetHeap h = small();
+        CountedHeap h = small();
         h.collect();
         int[] want = {0, 4, 10, 10, 10, 10};
         for (int b = 0; b < want.length; b++) {
@@ -385,7 +369,7 @@ public final class PromisesTest {
 
     private static void promise11OffsetForEachBlockSize() {
         for (int size = 8; size <= 64; size *= 2) {
-            OffsetHeap h = new OffsetHeap(200, size);
+            CountedHeap h = new CountedHeap(200, size);
             h.make(0, 0);
             h.make(0, 99);
             h.make(0, 98);
@@ -404,7 +388,7 @@ public final class PromisesTest {
     }
 
     private static void promise12Moved() {
-        OffsetHeap h = small();
+        CountedHeap h = small();
         due("12: before a collecting", h.moved(1), 0);
         h.collect();
         int[] want = {0, 1, 2, 3, 4, 0, 0, 0, 0, 5, 6, 7, 8, 9, 10, 0, 0};
@@ -419,7 +403,7 @@ public final class PromisesTest {
         for (int far : FAR) {
             due("12: far word", h.moved(far), OffsetHeap.BAD);
         }
-        OffsetHeap full = new OffsetHeap(16, 8);
+        CountedHeap full = new CountedHeap(16, 8);
         full.make(0, 15);
         full.root(0, 1);
         full.collect();
@@ -427,7 +411,7 @@ public final class PromisesTest {
     }
 
     private static void promise13Reads() {
-        OffsetHeap h = small();
+        CountedHeap h = small();
         due("13: before a collecting", h.reads(), 0);
         h.collect();
         due("13: reads", h.reads(), 10);
@@ -442,7 +426,7 @@ public final class PromisesTest {
     }
 
     private static void promise14Near() {
-        OffsetHeap h = small();
+        CountedHeap h = small();
         h.refer(13, 0, 5);
         due("14: near 0", h.near(0), 1);
         due("14: near 1", h.near(1), 3);
@@ -465,7 +449,7 @@ public final class PromisesTest {
     }
 
     private static void promise14NearLongChain() {
-        OffsetHeap h = new OffsetHeap(4000, 32);
+        CountedHeap h = new CountedHeap(4000, 32);
         for (int i = 0; i < 120; i++) {
             h.make(1, 0);
             h.refer(2 * i - 1, 0, 2 * i + 1);
@@ -477,7 +461,7 @@ public final class PromisesTest {
     }
 
     private static void promise15Sound() {
-        OffsetHeap h = small();
+        CountedHeap h = small();
         due("15: before a collecting", h.sound(), true);
         h.collect();
         due("15: after one", h.sound(), true);
@@ -492,20 +476,20 @@ public final class PromisesTest {
         h.root(2, 0);
         h.collect();
         due("15: after none lives", h.sound(), true);
-        OffsetHeap full = new OffsetHeap(4000, 8);
-        for (int i = 0; i < 400; i++) {
-            full.make(2, 7);
-            full.refer(1 + 10 * i, 0, 1 + 10 * (i / 3));
-            full.refer(1 + 10 * (i / 2), 1, 1 + 10 * i);
+        CountedHeap full = new CountedHeap(4000, 8);
+        for (int i = 0; i < 100; i++) {
+            full.make(2, 37);
+            full.refer(1 + 40 * i, 0, 1 + 40 * (i / 3));
+            full.refer(1 + 40 * (i / 2), 1, 1 + 40 * i);
         }
-        full.root(0, 3991);
-        due("15: full", full.sound(), true);
+        full.root(0, 3961);
+        due("15: full", full.make(0, 0) == 0 && full.sound(), true);
         full.collect();
         due("15: full, collected", full.sound(), true);
     }
 
     private static void promise16Count() {
-        OffsetHeap h = small();
+        CountedHeap h = small();
         int[] want = {15, 4, 0, 40, 6};
         for (int what = 0; what < want.length; what++) {
             due("16: count " + what, h.count(what), want[what]);
@@ -523,9 +507,9 @@ public final class PromisesTest {
     }
 
     private static void wrongCallsChangeNothing() {
-        OffsetHeap h = small();
+        CountedHeap h = small();
         h.collect();
-        String before = words(h) + bits(h);
+        String before = h.words() + h.bits();
         for (int far : FAR) {
             h.make(far, far);
             h.refer(far, far, far);
@@ -534,7 +518,7 @@ public final class PromisesTest {
             h.near(far);
         }
         h.make(0, 100);
-        due("wrong calls: words and bits", words(h) + bits(h), before);
+        due("wrong calls: words and bits", h.words() + h.bits(), before);
         due("wrong calls: top", h.count(0), 11);
         due("wrong calls: objects", h.count(1), 3);
         due("wrong calls: root", h.rootOf(2), 5);

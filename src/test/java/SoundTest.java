@@ -37,6 +37,16 @@ public final class SoundTest {
         due(what, h.sound(), false);
     }
 
+    /** Words 1 .. 17 have their bits set, and offsets are 0, 7, 15, 17, 17, 17. */
+    private static void brokenBit(String what, int i, boolean want) throws ReflectiveOperationException {
+        OffsetHeap h = collected();
+        Object bits = field("bits").get(h);
+        Field row = bits.getClass().getDeclaredField("row");
+        row.setAccessible(true);
+        ((long[]) row.get(bits))[0] ^= 1L << i;
+        due(what, h.sound(), want);
+    }
+
     private static void brokenTop(int top) throws ReflectiveOperationException {
         OffsetHeap h = collected();
         field("top").setInt(h, top);
@@ -66,6 +76,14 @@ public final class SoundTest {
         brokenWord("the first block's offset", "offsets", 0, 1);
         brokenWord("a middle block's offset", "offsets", 1, 8);
         brokenWord("the last living block's offset", "offsets", 2, 14);
+        brokenBit("bit 0 too many", 0, false);
+        brokenBit("bit 1 too few", 1, false);
+        brokenBit("bit 7 too few", 7, false);
+        brokenBit("bit 8 too few", 8, false);
+        brokenBit("bit 15 too few", 15, false);
+        brokenBit("bit 24 with an offset that fits", 24, true);
+        brokenBit("bit 18, before which all fits", 18, true);
+        brokenBit("bit 17 too few, behind which none is set", 17, true);
         brokenTop(17);
         brokenTop(19);
         System.out.println(wrong == 0 ? "sound tells each break" : wrong + " breaks are not told");
