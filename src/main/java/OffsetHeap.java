@@ -25,11 +25,11 @@ public final class OffsetHeap {
     private final int[] found;
     private final BitRow seen;
 
+    // A header may look like any other word, so where objects begin is kept beside the words.
+    private final BitRow starts;
+
     private int[] space;
     private int[] fresh;
-    // A header may look like any other word, so where objects begin is kept beside the words.
-    private BitRow starts;
-    private BitRow freshStarts;
     private int top;
     private int objects;
     private int collectings;
@@ -44,10 +44,9 @@ public final class OffsetHeap {
         offsets = new int[blocks];
         found = new int[last];
         seen = new BitRow(last);
+        starts = new BitRow(last);
         space = new int[last + 1];
         fresh = new int[last + 1];
-        starts = new BitRow(last);
-        freshStarts = new BitRow(last);
         top = 1;
     }
 
@@ -260,10 +259,13 @@ public final class OffsetHeap {
         return address == 0 ? 0 : newAddress(address);
     }
 
-    /** A header that was read says what the words behind it are, so none is read a second time. */
+    /**
+     * A header that was read says what the words behind it are, so none is read a second time, and
+     * where objects began is not asked: the row is free to take where they begin now.
+     */
     private void copyLiving() {
         Arrays.fill(fresh, 0);
-        freshStarts.clear();
+        starts.clear();
         wordsRead = 0;
         objects = 0;
         int references = 0;
@@ -285,7 +287,7 @@ public final class OffsetHeap {
                 references = referencesBy(value);
                 plain = plainBy(value);
                 fresh[to] = value;
-                freshStarts.put(to);
+                starts.put(to);
                 objects++;
             }
         }
@@ -301,9 +303,6 @@ public final class OffsetHeap {
         int[] oldSpace = space;
         space = fresh;
         fresh = oldSpace;
-        BitRow oldStarts = starts;
-        starts = freshStarts;
-        freshStarts = oldStarts;
     }
 
     private boolean objectsLieInARow() {

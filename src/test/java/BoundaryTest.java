@@ -46,6 +46,7 @@ public final class BoundaryTest {
         promise7Words0ToN();
         promise7BadMayBeAWord();
         promise8ObjectBeginsAtAddress();
+        promise8NoneBehindTheLastWord();
         promise9NoSuchRoot();
         promise10Bits0ToN();
         promise11BlocksWithWords0ToN();
@@ -671,6 +672,27 @@ public final class BoundaryTest {
         h.root(1, 0);
         h.collect();
         due("none when none lives", h.isObject(1), false);
+    }
+
+    /** When all is full, the top is no word any more; with 63 or 64 words a row of longs may end there. */
+    private static void promise8NoneBehindTheLastWord() {
+        for (int n : new int[] {16, 31, 32, 62, 63, 64, 65, 127, 128, 4000}) {
+            CountedHeap h = new CountedHeap(n, 64);
+            for (int left = n; left > 0; left -= Math.min(left, 100)) {
+                h.make(1, Math.min(left, 100) - 2);
+            }
+            due("top of a full one", h.count(0), n + 1);
+            due("isObject of the top of " + n, h.isObject(n + 1), false);
+            due("root to the top of " + n, h.root(0, n + 1), false);
+            due("reference to the top of " + n, h.refer(1, 0, n + 1), false);
+            due("reference of the top of " + n, h.refer(n + 1, 0, 1), false);
+            due("set at the top of " + n, h.set(n + 1, 0, 1), false);
+            due("sound of a full one of " + n, h.sound(), true);
+            h.root(0, 1);
+            due("living of " + n, h.collect(), Math.min(n, 100));
+            due("isObject behind all, of " + n, h.isObject(n + 1), false);
+            due("sound then", h.sound(), true);
+        }
     }
 
     // "BAD: none such."

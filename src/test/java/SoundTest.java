@@ -47,6 +47,17 @@ public final class SoundTest {
         due(what, h.sound(), want);
     }
 
+    /** The last block has word n alone, so that no other word can tell its offset. */
+    private static void brokenLastWord() throws ReflectiveOperationException {
+        OffsetHeap h = new OffsetHeap(40, 8);
+        h.make(0, 39);
+        h.root(0, 1);
+        h.collect();
+        due("the last word, before", h.sound(), true);
+        row(h, "offsets")[5] = 38;
+        due("the last word's block's offset", h.sound(), false);
+    }
+
     private static void brokenTop(int top) throws ReflectiveOperationException {
         OffsetHeap h = collected();
         field("top").setInt(h, top);
@@ -84,6 +95,7 @@ public final class SoundTest {
         brokenBit("bit 24 with an offset that fits", 24, true);
         brokenBit("bit 18, before which all fits", 18, true);
         brokenBit("bit 17 too few, behind which none is set", 17, true);
+        brokenLastWord();
         brokenTop(17);
         brokenTop(19);
         System.out.println(wrong == 0 ? "sound tells each break" : wrong + " breaks are not told");
