@@ -18,6 +18,7 @@ public final class PromisesTest {
         promise2Make();
         promise2Room();
         promise3Refer();
+        promise3ToItself();
         promise4Set();
         promise5Root();
         promise6Collect();
@@ -168,6 +169,24 @@ public final class PromisesTest {
             due("3: far to", h.refer(1, 0, far), false);
         }
         due("3: words after wrong ones", h.words(), before);
+    }
+
+    /** What refer refuses is named in full; that an object leads to itself is not among it. */
+    private static void promise3ToItself() {
+        CountedHeap h = new CountedHeap(40, 8);
+        h.make(0, 2);
+        h.make(2, 1);
+        due("3: first reference to itself", h.refer(4, 0, 4), true);
+        due("3: second reference to itself", h.refer(4, 1, 4), true);
+        due("3: words that lead to their own header", h.words(), "0 512 0 0 288 4 4");
+        due("3: by itself alone it does not live", h.near(100), 0);
+        h.root(5, 4);
+        due("3: it counts once", h.near(100), 1);
+        due("3: it lives once", h.collect(), 4);
+        due("3: it leads to itself where it went", h.words(), "0 288 1 1");
+        due("3: sound", h.sound(), true);
+        h.root(5, 0);
+        due("3: it does not keep itself", h.collect(), 0);
     }
 
     private static void promise4Set() {
